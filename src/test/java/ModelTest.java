@@ -158,7 +158,7 @@ public final class ModelTest {
     }
 
     public static void main(String[] arguments) throws Exception {
-        int runs = arguments.length > 0 ? Integer.parseInt(arguments[0]) : 60;
+        int runs = arguments.length > 0 ? Integer.parseInt(arguments[0]) : 100;
         int wrong = 0;
         for (int number = 0; number < runs; number++) {
             if (!new ModelTest(number).run(number)) {
