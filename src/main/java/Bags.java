@@ -907,8 +907,9 @@ public final class Bags {
     }
 
     private boolean isPairSound(int one, int other) {
-        boolean areInEachOther = isIn(one, other) && isIn(other, one);
-        long distance = distance(one, other);
+        boolean areInEachOther = isIn(other, one) && isIn(one, other);
+        layBags(one, other);
+        long distance = pairing.size(APART);
         long join = pairing.size(JOIN);
         long meet = pairing.size(MEET);
         return join + meet == pairing.size(SUM)
@@ -941,11 +942,13 @@ public final class Bags {
     }
 
     private long digestOfPair(long start, int one, int other) {
-        long d = mix(start, distance(one, other));
+        // Laid once for all the questions: laying is what costs most.
+        layBags(one, other);
+        long d = mix(start, pairing.size(APART));
         for (int how = SUM; how <= APART; how++) {
-            d = mix(d, would(one, other, how, false));
+            d = mix(d, pairing.size(how));
         }
-        return mix(d, isIn(one, other) ? 1 : 0);
+        return mix(d, pairing.kinds(LESS) == 0 ? 1 : 0);
     }
 
     private static long mix(long d, long v) {
@@ -975,12 +978,18 @@ public final class Bags {
 
         /** The spot of the first member that is no less; the one behind the last, if there is none. */
         int spotFrom(int number) {
-            for (int spot = 0; spot < kinds; spot++) {
-                if (memberAt(spot) >= number) {
-                    return spot;
+            int from = 0;
+            int to = kinds;
+            // Each round halves what is left, so that so many rounds are more than enough.
+            for (int round = 0; round < ROOM && from < to; round++) {
+                int middle = (from + to) / 2;
+                if (memberAt(middle) < number) {
+                    from = middle + 1;
+                } else {
+                    to = middle;
                 }
             }
-            return kinds;
+            return from;
         }
 
         int endSpot(boolean isGreatest) {
@@ -1083,8 +1092,8 @@ public final class Bags {
 
         private long copiesAhead(int spot) {
             long copies = 0;
-            for (int i = 0; i < spot; i++) {
-                copies += countAt(i);
+            for (int i = 0; i < spot && i < counts.length; i++) {
+                copies += counts[i];
             }
             return copies;
         }
@@ -1095,8 +1104,8 @@ public final class Bags {
 
         int memberAtPlace(long place) {
             long left = place;
-            for (int i = 0; i < kinds; i++) {
-                left -= countAt(i);
+            for (int i = 0; i < kinds && i < counts.length; i++) {
+                left -= counts[i];
                 if (left < 0) {
                     return memberAt(i);
                 }
