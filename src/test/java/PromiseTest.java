@@ -1,130 +1,6 @@
 /** A test for each promise of the document: ordinary inputs, the edges that it names, and wrong inputs. */
-public final class PromiseTest {
-    private static final int NONE = -9999;
-    private static final int FULL = 1000000;
-
-    private interface Call {
-        void make();
-    }
-
-    private enum Thrown { INDEX, ARGUMENT, STATE, OTHER, NOTHING }
-
-    private static int checks = 0;
-    private static int wrong = 0;
+public final class PromiseTest extends Checks {
     private static int promise = 0;
-
-    private static void due(Object got, Object want) {
-        checks++;
-        if (!want.equals(got)) {
-            wrong++;
-            StackTraceElement at = Thread.currentThread().getStackTrace()[3];
-            System.out.println("promise " + promise + ", line " + at.getLineNumber()
-                + ": answered " + got + ", due is " + want);
-        }
-    }
-
-    private static void is(long got, long want) {
-        due(got, want);
-    }
-
-    private static void is(boolean got, boolean want) {
-        due(got, want);
-    }
-
-    private static void is(String got, String want) {
-        due(got, want);
-    }
-
-    private static Thrown thrownBy(Call call) {
-        try {
-            call.make();
-            return Thrown.NOTHING;
-        } catch (ArrayIndexOutOfBoundsException | StringIndexOutOfBoundsException e) {
-            return Thrown.OTHER;
-        } catch (IndexOutOfBoundsException e) {
-            return Thrown.INDEX;
-        } catch (IllegalArgumentException e) {
-            return Thrown.ARGUMENT;
-        } catch (IllegalStateException e) {
-            return Thrown.STATE;
-        } catch (RuntimeException e) {
-            return Thrown.OTHER;
-        }
-    }
-
-    /** A method that throws changes nothing. */
-    private static void throwing(Bags x, Thrown want, Call... calls) {
-        for (Call call : calls) {
-            String before = state(x);
-            due(thrownBy(call), want);
-            due(state(x), before);
-        }
-    }
-
-    private static void index(Bags x, Call... calls) {
-        throwing(x, Thrown.INDEX, calls);
-    }
-
-    private static void argument(Bags x, Call... calls) {
-        throwing(x, Thrown.ARGUMENT, calls);
-    }
-
-    private static void state(Bags x, Call... calls) {
-        throwing(x, Thrown.STATE, calls);
-    }
-
-    private static String state(Bags x) {
-        StringBuilder state = new StringBuilder();
-        for (int bag = 0; bag < 4; bag++) {
-            state.append(x.text(bag, false)).append('/');
-        }
-        return state.append(x.halves()).append('/').append(x.digest()).toString();
-    }
-
-    /** A new object with bags as their texts tell: "-3x2 0x1". */
-    private static Bags with(String... texts) {
-        Bags x = new Bags();
-        for (int bag = 0; bag < texts.length; bag++) {
-            for (String one : texts[bag].split(" ")) {
-                if (!one.isEmpty()) {
-                    x.put(bag, Integer.parseInt(one.split("x")[0]), Integer.parseInt(one.split("x")[1]));
-                }
-            }
-        }
-        return x;
-    }
-
-    private static Bags flowed(int length, int... values) {
-        Bags x = new Bags();
-        x.window(length);
-        for (int value : values) {
-            x.flow(value);
-        }
-        return x;
-    }
-
-    /** Whether the call ends a walk over bag 0, but none over bag 1. */
-    private static void endsWalk(Bags x, Call call) {
-        x.walk(0);
-        x.step();
-        call.make();
-        due(x.ofWalk(0), -1);
-        due(x.ofWalk(1), NONE);
-        due(x.ofWalk(2), 0);
-        due(x.ofWalk(3), 0);
-        due(x.ofWalk(4), 0);
-        x.walk(1);
-        call.make();
-        due(x.ofWalk(0), 1);
-    }
-
-    private static void keepsWalk(Bags x, Call call) {
-        x.walk(0);
-        x.step();
-        call.make();
-        due(x.ofWalk(0), 0);
-        due(x.ofWalk(3), 1);
-    }
 
     private static void newObject() {
         Bags x = new Bags();
@@ -1343,11 +1219,9 @@ public final class PromiseTest {
     public static void main(String[] arguments) {
         for (Call test : PROMISES) {
             promise++;
+            testing("promise " + promise);
             test.make();
         }
-        System.out.println("PromiseTest: " + promise + " promises, " + checks + " checks, " + wrong + " not as due");
-        if (wrong > 0) {
-            System.exit(1);
-        }
+        report("PromiseTest: " + promise + " promises");
     }
 }
