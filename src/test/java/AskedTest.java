@@ -187,7 +187,8 @@ public final class AskedTest extends Sentences {
         });
         sentence("Returns that.", () -> is(with("7x3").share(0, 1, 0, 4), 21));
         sentence(BAG, () -> bags((x, bag) -> x.share(bag, 3, 2, 0)));
-        sentence("Throws `IllegalArgumentException` if many is not 1 to 20, one not 0 to many - 1, or what not 0 to 4", () -> {
+        sentence("Throws `IllegalArgumentException` if many is not 1 to 20, one not 0 to many - 1, or what not 0 "
+            + "to 4", () -> {
             arguments(1, 20, (x, many) -> x.share(0, many, 0, 0));
             int[] all = {1, 3, 20};
             for (int many : all) {
@@ -401,7 +402,8 @@ public final class AskedTest extends Sentences {
             full.fill(3, -999, -960, 1, FULL);
             soundEverywhere(full);
         });
-        sentence("polled to the end (in thought), it tells rising MEMBERS and COUNTS that come to SIZE; it is not OVERFULL", () -> {
+        sentence("polled to the end (in thought), it tells rising MEMBERS and COUNTS that come to SIZE; it is not "
+            + "OVERFULL", () -> {
             Bags x = fullOf(FULL);
             is(x.isSound(), true);
             int before = NONE;

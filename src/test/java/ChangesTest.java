@@ -130,7 +130,8 @@ public final class ChangesTest extends Sentences {
 
     private static void place() {
         part("5: place");
-        sentence("Tells a COUNT only if the number is fresh, or only if it is not; otherwise nothing becomes otherwise.", () -> {
+        sentence("Tells a COUNT only if the number is fresh, or only if it is not; otherwise nothing becomes "
+            + "otherwise.", () -> {
             Bags x = with("7x5");
             x.place(0, 7, 2, true);
             x.place(0, 8, 2, false);
@@ -167,7 +168,8 @@ public final class ChangesTest extends Sentences {
             counts((x, told) -> x.place(1, 50, told, true));
             counts((x, told) -> x.place(1, 50, told, false));
         });
-        sentence("Throws `IllegalStateException` if the COUNT would be told, and the BAG would be OVERFULL by that", () -> {
+        sentence("Throws `IllegalStateException` if the COUNT would be told, and the BAG would be OVERFULL by "
+            + "that", () -> {
             refused(Thrown.STATE, x -> x.place(3, 0, 1, true), x -> x.place(3, 41, FULL, true));
             Bags x = busy();
             is(x.place(3, 0, 1, false), 0);
@@ -205,7 +207,8 @@ public final class ChangesTest extends Sentences {
             is(full.swap(0, 40, 1, 2), true);
         });
         sentence(BAG, () -> bags((x, bag) -> x.swap(bag, 4, 1, 2)));
-        sentence("Throws `IllegalArgumentException` if member is not -999 to 999, or was or count not 1 to 1000000", () -> {
+        sentence("Throws `IllegalArgumentException` if member is not -999 to 999, or was or count not 1 to "
+            + "1000000", () -> {
             numbers((x, told) -> x.swap(1, told, 1, 1));
             counts((x, told) -> x.swap(1, 4, told, 1));
             counts((x, told) -> x.swap(1, 4, 9, told));
@@ -451,6 +454,14 @@ public final class ChangesTest extends Sentences {
             is(x.sift(2, 1, false), 2);
             is(x.text(2, false), "1x5");
             is(x.text(1, false), "2x4 3x2 9x1");
+            // One copy in the other bag is enough, and none is too little.
+            Bags y = with("9x1000000 10x2", "9x1 10x1");
+            y.take(1, 10, 1);
+            y.copy(0, 2);
+            y.sift(0, 1, true);
+            is(y.text(0, false), "9x1000000");
+            y.sift(2, 1, false);
+            is(y.text(2, false), "10x2");
         });
         sentence("Returns how many KINDS are gone.", () -> {
             Bags x = with("1x5 2x1", "1x1");

@@ -2,7 +2,8 @@
 public final class DescriptionTest extends Sentences {
     private static void beforeTheSections() {
         part("What it is");
-        sentence("Four bags in which a number may lie many times, and a window of the latest numbers that came.", () -> {
+        sentence("Four bags in which a number may lie many times, and a window of the latest numbers that "
+            + "came.", () -> {
             Bags x = with("5x1000000", "5x1", "5x2", "5x3");
             is(x.flow(5), 5);
             is(x.text(0, false) + " " + x.text(1, false) + " " + x.text(2, false) + " " + x.text(3, false),
@@ -227,7 +228,8 @@ public final class DescriptionTest extends Sentences {
 
     private static void ranksAndShares() {
         part("2. Ranks and shares");
-        sentence("The PLACES of a BAG are 0 to SIZE - 1: its copies are thought of as a row, by rising numbers.", () -> {
+        sentence("The PLACES of a BAG are 0 to SIZE - 1: its copies are thought of as a row, by rising "
+            + "numbers.", () -> {
             Bags x = with("-3x2 0x1 4x3");
             int[] row = {-3, -3, 0, 4, 4, 4};
             for (int place = 0; place < row.length; place++) {
@@ -325,7 +327,8 @@ public final class DescriptionTest extends Sentences {
 
     private static void twoBags() {
         part("3. Two bags");
-        sentence("Of two BAGS (one and the same may be told twice) five others are thought of, number by number", () -> {
+        sentence("Of two BAGS (one and the same may be told twice) five others are thought of, number by "
+            + "number", () -> {
             Bags x = with("1x5 2x1");
             long[] sizes = {12, 6, 6, 0, 0};
             long[] kinds = {2, 2, 2, 0, 0};
@@ -609,7 +612,8 @@ public final class DescriptionTest extends Sentences {
             is(full.step(), NONE);
             is(full.ofWalk(3), 40);
         });
-        sentence("AT is the MEMBER at which it stands: NONE as it begins, then by step() the next one, each time.", () -> {
+        sentence("AT is the MEMBER at which it stands: NONE as it begins, then by step() the next one, each "
+            + "time.", () -> {
             Bags x = with("4x1 6x1");
             x.walk(0);
             is(x.ofWalk(1), NONE);
@@ -705,7 +709,8 @@ public final class DescriptionTest extends Sentences {
                 unchangedButNoWalk(x, change);
             }
         });
-        sentence("for the BAG that is told (of mend and sift the first one), copy and combine for the BAG \"to\"", () -> {
+        sentence("for the BAG that is told (of mend and sift the first one), copy and combine for the BAG "
+            + "\"to\"", () -> {
             On[] ofOthers = {
                 x -> x.put(1, 1, 1), x -> x.take(1, 1, 1), x -> x.tell(1, 1, 9), x -> x.place(1, 1, 9, true),
                 x -> x.swap(1, 1, 4, 5), x -> x.poll(1, true), x -> x.pick(1, true), x -> x.clear(1),
@@ -803,7 +808,8 @@ public final class DescriptionTest extends Sentences {
     }
 
     private static void halves() {
-        sentence("Of N VALUES in the WINDOW the LOWER HALF has the (N + 1) / 2 least ones, the UPPER HALF the others", () -> {
+        sentence("Of N VALUES in the WINDOW the LOWER HALF has the (N + 1) / 2 least ones, the UPPER HALF the "
+            + "others", () -> {
             Bags x = flowed(30);
             int[] lower = {0, 1, 1, 2, 2, 3, 3};
             for (int number = 0; number <= 6; number++) {

@@ -162,7 +162,8 @@ public final class LensTest extends Sentences {
 
     private static void lensPoll() {
         part("23: lensPoll");
-        sentence("Polls the least MEMBER that lies in the LENS of a BAG: all its copies are taken out, and it is LAST.", () -> {
+        sentence("Polls the least MEMBER that lies in the LENS of a BAG: all its copies are taken out, and it is "
+            + "LAST.", () -> {
             Bags x = with("1x2 2x3 5x1000000 6x1");
             x.lens(0, 0, 2, 6);
             x.lensPoll(0);

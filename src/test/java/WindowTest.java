@@ -328,6 +328,14 @@ public final class WindowTest extends Sentences {
             is(flowed(2, 5, 8).wouldFlow(5), 5);
             is(flowed(3, 1, 5, 9).wouldFlow(9), 9);
             is(flowed(3, 9, 5, 1).wouldFlow(1), 1);
+            // Of several that are like the oldest one just that falls out.
+            is(flowed(3, 5, 5, 9).wouldFlow(7), 7);
+            is(flowed(3, 5, 5, 5).wouldFlow(9), 5);
+            // Behind 1 to a number, for which the window has room up to 8 of them.
+            int[] medians = {999, 1, 2, 2, 3, 3, 4, 4, 5, 6};
+            for (int number = 0; number < medians.length; number++) {
+                is(rising(9, number).wouldFlow(999), medians[number]);
+            }
             int[] told = {-999, 0, 15, 16, 17, 40, 999};
             for (int value : told) {
                 Bags x = rising(30, 31);
