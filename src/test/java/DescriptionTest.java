@@ -39,8 +39,7 @@ public final class DescriptionTest extends Sentences {
         sentence("-9 is told as it is written", () -> {
             is(new Bags().none(), -9);
             is(new Bags().within(0, 1, 0, true), -9);
-            // A number -9 is nothing else than a number.
-            is(with("-9x1").pick(0, true), -9);
+            minusNine();
         });
         sentence("There are four BAGS, 0 to 3, empty at first.", () -> {
             Bags x = new Bags();
@@ -81,6 +80,37 @@ public final class DescriptionTest extends Sentences {
             x.tell(0, 9, 1);
             is(x.ofBag(0, 1), 1);
         });
+    }
+
+    /** A number -9, and a 0, is nothing else than a number: what answers it does all that it does with another. */
+    private static void minusNine() {
+        int[] numbers = {-9, 0};
+        for (int number : numbers) {
+            Bags x = new Bags();
+            x.put(0, number, 2);
+            x.put(1, number, 3);
+            is(x.pick(0, true), number);
+            is(x.pick(0, false), number);
+            is(x.pick(0, false), NONE);
+            is(x.pour(1), number);
+            is(x.flow(number), number);
+            is(x.pull(true), number);
+            is(x.oldest(), number);
+            is(x.oldest(), NONE);
+            is(x.poll(1, true), 2);
+            is(x.books(2), number);
+            is(x.shift(0, 1), NONE);
+            x.put(2, number, 1);
+            x.walk(2);
+            is(x.step(), number);
+            is(x.ofWalk(1), number);
+            is(x.stepSet(2), 1);
+            is(x.ofBag(2, 3), number);
+            is(x.near(2, number, 1), number);
+            is(x.shares(2, 2), number + " " + number);
+            is(x.ofBag(0, 1) + x.ofBag(1, 1), 0);
+            is(x.books(0), 0);
+        }
     }
 
     private static void wholeBags() {
@@ -855,6 +885,7 @@ public final class DescriptionTest extends Sentences {
             refused(Thrown.STATE, x -> x.put(3, 0, 1), x -> x.fill(3, 39, 41, 1, 1), x -> x.fill(0, 4, 30, 26, 1),
                 x -> x.combine(3, 1, 1, 0), x -> x.grow(0, 2), x -> x.shift(0, 970), x -> x.shift(0, -993),
                 x -> x.mend(3, 1, 2), x -> x.lensPut(1, -7, FULL), x -> x.lensPoll(3), x -> x.harvest(3));
+            thrownOnTheWalk();
         });
         sentence("If several exceptions apply, the one that is named first is thrown.", DescriptionTest::firstNamed);
         sentence("What is asked changes nothing.", () -> asked(
@@ -865,6 +896,34 @@ public final class DescriptionTest extends Sentences {
             x -> x.share(1, 3, 2, 4), x -> x.shares(1, 20), x -> x.isIn(1, 0), x -> x.isSame(1, 1),
             x -> x.distance(1, 3), x -> x.would(1, 3, 4, true), x -> x.text(1, true), x -> x.hasCount(1, 9),
             x -> x.books(0), x -> x.isSound(), x -> x.digest()));
+    }
+
+    /** Neither does the walk over that very bag end, nor any of its members change. */
+    private static void thrownOnTheWalk() {
+        Bags x = fullOf(FULL);
+        x.put(1, 0, 1);
+        x.flow(0);
+        x.lens(0, 1, 0, 999);
+        x.walk(0);
+        x.step();
+        argument(x, () -> x.put(0, 1, 0), () -> x.take(0, 1, 0), () -> x.tell(0, 1, -1), () -> x.place(0, 1, 0, true),
+            () -> x.swap(0, 1, FULL, 0), () -> x.fill(0, 1, 1, 0, 1), () -> x.combine(0, 1, 0, 5),
+            () -> x.sift(0, 0, true), () -> x.purge(0, 0), () -> x.thin(0, 1), () -> x.grow(0, 1001),
+            () -> x.shift(0, 1000), () -> x.mend(0, 1, 0), () -> x.lensPut(0, 1, 0), () -> x.lensTake(0, 1000),
+            () -> x.stepSet(0));
+        state(x, () -> x.put(0, 0, 1), () -> x.put(0, 1, 1), () -> x.tell(0, 0, 1), () -> x.place(0, 0, 1, true),
+            () -> x.fill(0, 0, 0, 1, 1), () -> x.fill(0, 0, 999, 1, 1), () -> x.combine(0, 1, 0, 0),
+            () -> x.grow(0, 2), () -> x.shift(0, 960), () -> x.mend(0, 1, 1), () -> x.lensPut(0, 0, 1),
+            () -> x.lensPut(0, 1, 1), () -> x.harvest(0));
+        index(x, () -> x.copy(4, 0), () -> x.combine(4, 0, 0, 0), () -> x.sift(0, 4, true), () -> x.mend(0, 4, 1),
+            () -> x.walk(4));
+        is(x.ofWalk(1), 1);
+        is(x.step(), 2);
+        Bags y = with("1x1");
+        y.walk(0);
+        y.step();
+        state(y, () -> y.lensPut(0, 1, 1), () -> y.lensTake(0, 1), () -> y.lensPoll(0), () -> y.lensClear(0));
+        is(y.ofWalk(1), 1);
     }
 
     private static void firstNamed() {

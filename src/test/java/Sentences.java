@@ -57,7 +57,11 @@ abstract class Sentences extends Checks {
         }
         TESTED.get(part).add(words);
         tests++;
-        test.make();
+        try {
+            test.make();
+        } catch (RuntimeException e) {
+            fail("threw " + e);
+        }
     }
 
     private static boolean isTested(String sentence, List<String> tested) {
