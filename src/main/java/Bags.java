@@ -27,10 +27,10 @@ public final class Bags {
     private final Bag bag1 = new Bag();
     private final Bag bag2 = new Bag();
     private final Bag bag3 = new Bag();
-    private final Lens lens0 = new Lens(bag0);
-    private final Lens lens1 = new Lens(bag1);
-    private final Lens lens2 = new Lens(bag2);
-    private final Lens lens3 = new Lens(bag3);
+    private final Lens lens0 = new Lens();
+    private final Lens lens1 = new Lens();
+    private final Lens lens2 = new Lens();
+    private final Lens lens3 = new Lens();
     private final Window values = new Window();
     /** What a bag would be behind a change; it is no part of what the object knows. */
     private final Bag draft = new Bag();
@@ -269,6 +269,7 @@ public final class Bags {
 
     public int lens(int bag, int form, int from, int to)
         throws IndexOutOfBoundsException, IllegalArgumentException {
+        Bag seen = bagOf(bag);
         Lens told = lensOf(bag);
         needWithin(form, 0, 2);
         needNumber(from);
@@ -277,7 +278,7 @@ public final class Bags {
             return lapse();
         }
         told.aim(form, from, to);
-        return told.kinds();
+        return told.kindsOf(seen);
     }
 
     public int lensPut(int bag, int member, int count)
@@ -298,7 +299,7 @@ public final class Bags {
         Lens through = lensOf(bag);
         needNumber(member);
         needLens(through);
-        int taken = through.copiesOf(member);
+        int taken = through.copiesOf(changed, member);
         changed.addCopies(member, -taken);
         endWalk(bag);
         return taken;
@@ -308,7 +309,7 @@ public final class Bags {
         Bag changed = bagOf(bag);
         Lens through = lensOf(bag);
         needLens(through);
-        int count = through.kinds() > 0 ? pollAt(changed, through.firstSpot()) : 0;
+        int count = through.kindsOf(changed) > 0 ? pollAt(changed, through.firstSpot(changed)) : 0;
         endWalk(bag);
         return count;
     }
@@ -317,7 +318,7 @@ public final class Bags {
         Bag changed = bagOf(bag);
         Lens through = lensOf(bag);
         needLens(through);
-        long taken = through.size();
+        long taken = through.sizeOf(changed);
         draft.empty();
         for (int i = 0; i < changed.kinds; i++) {
             if (!through.reaches(changed.memberAt(i))) {
@@ -330,27 +331,29 @@ public final class Bags {
     }
 
     public long ofLens(int bag, int what) throws IndexOutOfBoundsException, IllegalArgumentException {
+        Bag seen = bagOf(bag);
         Lens asked = lensOf(bag);
         switch (what) {
             case 0:
                 return asked.form;
             case 1:
-                return asked.kinds();
+                return asked.kindsOf(seen);
             case 2:
-                return asked.size();
+                return asked.sizeOf(seen);
             case 3:
-                return asked.least();
+                return asked.leastOf(seen);
             case 4:
-                return asked.greatest();
+                return asked.greatestOf(seen);
             default:
                 throw new IllegalArgumentException("what is not 0 to 4");
         }
     }
 
     public int lensCount(int bag, int member) throws IndexOutOfBoundsException, IllegalArgumentException {
+        Bag seen = bagOf(bag);
         Lens asked = lensOf(bag);
         needNumber(member);
-        return asked.copiesOf(member);
+        return asked.copiesOf(seen, member);
     }
 
     // ---- the walk
@@ -1146,17 +1149,12 @@ public final class Bags {
         }
     }
 
-    /** What may be seen and touched of a bag; nothing, till it is aimed. */
+    /** Which numbers of its bag may be seen and touched; none, till it is aimed. The bag itself is told each time. */
     private static final class Lens {
-        private final Bag bag;
         private int form = NO_FORM;
         /** The reach has the numbers from low on, up to the one ahead of end. */
         private int low = 0;
         private int end = 0;
-
-        Lens(Bag bag) {
-            this.bag = bag;
-        }
 
         void aim(int newForm, int from, int to) {
             form = newForm;
@@ -1180,27 +1178,33 @@ public final class Bags {
             return number >= low && number < end;
         }
 
-        int firstSpot() {
+        int firstSpot(Bag bag) {
             return bag.spotFrom(low);
         }
 
-        int kinds() {
-            return bag.spotFrom(end) - firstSpot();
+        private int endSpot(Bag bag) {
+            return bag.spotFrom(end);
         }
 
-        long size() {
+        int kindsOf(Bag bag) {
+            return endSpot(bag) - firstSpot(bag);
+        }
+
+        long sizeOf(Bag bag) {
             return bag.copiesBelow(end) - bag.copiesBelow(low);
         }
 
-        int least() {
-            return kinds() > 0 ? bag.memberAt(firstSpot()) : NONE;
+        int leastOf(Bag bag) {
+            int spot = firstSpot(bag);
+            return spot < endSpot(bag) ? bag.memberAt(spot) : NONE;
         }
 
-        int greatest() {
-            return kinds() > 0 ? bag.memberAt(bag.spotFrom(end) - 1) : NONE;
+        int greatestOf(Bag bag) {
+            int spot = endSpot(bag) - 1;
+            return spot >= firstSpot(bag) ? bag.memberAt(spot) : NONE;
         }
 
-        int copiesOf(int number) {
+        int copiesOf(Bag bag, int number) {
             return reaches(number) ? bag.copiesOf(number) : 0;
         }
     }
